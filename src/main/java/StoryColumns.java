@@ -570,6 +570,7 @@ public final class StoryColumns {
         void build() {
             texts = 0;
             for (int k = 0; k < blocks.count; k++) {
+                over[k] = blocks.kind[k] == HEAD ? NONE : reaches.headOver(k);
                 putUnderHead(k);
             }
             int round = 0;
@@ -587,13 +588,7 @@ public final class StoryColumns {
 
         private void putUnderHead(int k) {
             taker[k] = NONE;
-            if (blocks.kind[k] == HEAD) {
-                over[k] = NONE;
-                root[k] = k;
-                return;
-            }
-            over[k] = reaches.headOver(k);
-            root[k] = over[k];
+            root[k] = blocks.kind[k] == HEAD ? k : over[k];
             if (blocks.kind[k] == TEXT && over[k] != NONE) {
                 insert(k);
             }

@@ -20,6 +20,9 @@ public final class ArticlesTest {
         ofArticleRefusals();
         readAll();
         many();
+        firstBlockCounts();
+        full();
+        fullRing();
         D.end();
     }
 
@@ -338,5 +341,68 @@ public final class ArticlesTest {
         D.due("23 outside", x.many(-1), StoryColumns.OUTSIDE);
         D.due("23 outside", x.many(12), StoryColumns.OUTSIDE);
         D.due("23 outside", x.many(Integer.MAX_VALUE), StoryColumns.OUTSIDE);
+    }
+
+    private static void firstBlockCounts() {
+        StoryColumns x = new StoryColumns();
+        x.block(2, 1, 0, 0, 0, 0);
+        x.words(0, 40);
+        x.mark(0, ONWARD, 0, 0);
+        D.row("21 text 0 alone", ofArticle(x, 0), 0, 1, 1, 40, 4, 0, 1);
+        D.due("23 broken", x.many(9), 1);
+        x.mark(0, FROM, 1, 1);
+        D.due("23 idle mark", x.many(10), 1);
+    }
+
+    /** 24 texts left over and 12 lines: each row of the object is filled to its end. */
+    private static void full() {
+        StoryColumns x = new StoryColumns();
+        for (int k = 0; k < 24; k++) {
+            x.block(k % 4, 1, k / 4, k / 4, k, k);
+            x.mark(k, ONWARD, 3, 50);
+            x.mark(k, FROM, 3, 60 + k);
+        }
+        for (int k = 0; k < 12; k++) {
+            x.line(k % 4, k % 2, 1 + k / 2, 0, 7);
+        }
+        int[] want = {24, 12, 0, 24, 24, 0, 24, 24, 0, 24, 24, 0};
+        for (int what = 0; what < 12; what++) {
+            D.due("23 full many(" + what + ")", x.many(what), want[what]);
+        }
+        for (int k = 0; k < 24; k++) {
+            D.due("16 broken", x.ofStory(k, 8), 1);
+            D.due("16 no picture", x.ofStory(k, 3), 0);
+            D.due("16 none joined", x.ofStory(k, 4), 0);
+            D.due("17 its text", x.text(k, 0), k);
+            D.row("21 alone", ofArticle(x, k), k, 1, 1, 1, 1 << k % 4, 0, 1);
+            D.due("22 read", x.read(k, 0), k);
+            D.due("22 read", x.read(k, 23), NONE);
+        }
+        D.due("21 no more", x.ofArticle(24, 0), StoryColumns.UNKNOWN);
+        D.due("8 turn", x.turn(), 24);
+    }
+
+    /** Each text goes on at the one that came ahead of it, the first at the last. */
+    private static void fullRing() {
+        StoryColumns x = new StoryColumns();
+        for (int k = 0; k < 24; k++) {
+            x.block(k % 4, 1, 0, 0, k, k);
+            x.words(k, 99);
+        }
+        for (int k = 0; k < 24; k++) {
+            int to = (k + 23) % 24;
+            x.mark(k, ONWARD, to % 4, k);
+            x.mark(to, FROM, k % 4, k);
+        }
+        D.row("21 ring of all", ofArticle(x, 0), 0, 24, 24, 24 * 99, 15, 1, 0);
+        D.due("23 articles", x.many(7), 1);
+        D.due("23 rings", x.many(8), 1);
+        for (int i = 0; i < 24; i++) {
+            D.due("22 read", x.read(0, i), (24 - i) % 24);
+        }
+        x.unmark(12, ONWARD);
+        D.row("21 a row of all", ofArticle(x, 0), 11, 24, 24, 24 * 99, 15, 0, 0);
+        D.due("22 the first", x.read(0, 0), 11);
+        D.due("22 the last", x.read(0, 23), 12);
     }
 }

@@ -18,6 +18,9 @@ public final class StoriesTest {
         takenByRefusals();
         ofStory();
         text();
+        lastRowOfReach();
+        firstBlockCounts();
+        asItIsWhenAsked();
         D.end();
     }
 
@@ -308,5 +311,66 @@ public final class StoriesTest {
         D.due("17 outside", x.text(0, -1), StoryColumns.OUTSIDE);
         D.due("17 unknown", x.text(1, 0), StoryColumns.UNKNOWN);
         D.due("17 unknown ahead of outside", x.text(-1, 24), StoryColumns.UNKNOWN);
+    }
+
+    private static void lastRowOfReach() {
+        StoryColumns x = new StoryColumns();
+        x.block(0, 0, 0, 0, 0, 0);
+        x.block(0, 1, 0, 0, 5, 9);
+        x.block(0, 2, 0, 0, 29, 29);
+        D.due("13 in the last row of the page", x.under(2), 0);
+        x.line(0, 1, 6, 0, 0);
+        D.due("13 in the last row, the line lies in it", x.under(1), 0);
+        x.line(0, 1, 5, 0, 0);
+        D.due("13 below the last row", x.under(1), NONE);
+    }
+
+    /** What the others do as later blocks, block 0 does here. */
+    private static void firstBlockCounts() {
+        StoryColumns x = new StoryColumns();
+        x.block(0, 1, 1, 1, 1, 9);
+        x.block(0, 1, 0, 0, 1, 9);
+        x.block(0, 0, 0, 0, 0, 0);
+        D.due("15 text 0 is taken", x.takenBy(0), 1);
+        D.due("23 joined", x.many(5), 1);
+        D.due("16 joined", x.ofStory(0, 4), 1);
+        x.turn();
+        D.due("15 no more", x.takenBy(0), NONE);
+        x.clear();
+        x.block(0, 1, 0, 0, 1, 9);
+        x.block(0, 1, 1, 1, 1, 9);
+        x.block(0, 0, 0, 0, 0, 0);
+        D.due("15 text 0 takes", x.takenBy(1), 0);
+        x.clear();
+        x.block(0, 2, 0, 0, 1, 9);
+        D.due("23 picture 0 under none", x.many(11), 1);
+        x.block(0, 0, 0, 0, 0, 0);
+        D.due("23 picture 0 under a head", x.many(11), 0);
+        D.due("16 pictures", x.ofStory(0, 3), 1);
+    }
+
+    private static void asItIsWhenAsked() {
+        StoryColumns x = new StoryColumns();
+        x.block(0, 1, 0, 0, 1, 9);
+        D.due("left over", x.story(0), 0);
+        D.due("left over", x.many(6), 1);
+        x.block(0, 0, 0, 0, 0, 0);
+        D.due("a head came", x.under(0), 1);
+        x.line(0, 1, 1, 0, 0);
+        D.due("a line came", x.under(0), NONE);
+        D.due("two stories", x.many(4), 2);
+        x.erase();
+        D.due("it went", x.under(0), 1);
+        D.due("one story", x.many(4), 1);
+        x.turn();
+        D.due("turned", x.under(0), 1);
+        x.back();
+        D.due("the head went", x.under(0), NONE);
+        D.due("left over", x.many(6), 1);
+        D.due("a story", x.ofStory(0, 0), NONE);
+        x.clear();
+        D.due("no story", x.ofStory(0, 0), StoryColumns.UNKNOWN);
+        D.due("no article", x.ofArticle(0, 0), StoryColumns.UNKNOWN);
+        D.due("no article", x.many(7), 0);
     }
 }
