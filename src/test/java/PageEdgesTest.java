@@ -136,12 +136,16 @@ public final class PageEdgesTest {
         run("3 OUTSIDE, then STATE", three + "words 0|2 0|100 = OUTSIDE");
         run("3 UNKNOWN, then OUTSIDE", three + "words MIN|-1|3|24|MAX 0|1|99|100 = UNKNOWN");
         run("3 a new TEXT begins with 1", three + "back; words 1 9; back; block 0 1 0 0 1 1; ofBlock 1 6 = 1");
-        run("3 of one TEXT alone", three + "block 0 1 1 1 1 1 = 3; words 1 9; ofBlock 3 6 = 1; words 3 8 = 1; ofBlock 1 6 = 9");
+        run("3 of one TEXT alone", three + """
+            block 0 1 1 1 1 1 = 3; words 1 9; ofBlock 3 6 = 1; words 3 8 = 1; ofBlock 1 6 = 9
+            """);
     }
 
     private static void lineNumbers() {
         run("4 PAGES 0 .. 3", "line MIN|-1|4|MAX 0..1 1 0 0 = OUTSIDE; many 1 = 0; line 0..3 0 1 0 0; many 1 = 4");
-        run("4 how 0, 1", "line 0 MIN|-1|2|MAX 1 0 0 = OUTSIDE; line 0 0 1 0 0 = 0; line 0 1 1 0 0 = 1; ofLine * 1 = 0 1");
+        run("4 how 0, 1", """
+            line 0 MIN|-1|2|MAX 1 0 0 = OUTSIDE; line 0 0 1 0 0 = 0; line 0 1 1 0 0 = 1; ofLine * 1 = 0 1
+            """);
         run("4 UPRIGHT at x 1 .. 7", """
             line 0 0 MIN|-1|0 0 0 = OUTSIDE; line 0 0 8|9|29|MAX 0 0 = OUTSIDE
             line 0 0 1 0 0 = 0; line 0 0 7 0 0 = 1; ofLine * 2 = 1 7
@@ -164,7 +168,9 @@ public final class PageEdgesTest {
             line 0 0..1 1 1 0 = OUTSIDE; line 0 0 1 29 28 = OUTSIDE; line 0 1 1 7 6 = OUTSIDE
             line 0 0..1 1 MAX MIN = OUTSIDE; line 0 0..1 1 1 1; many 1 = 2
             """);
-        run("4 numbered from 0 on as they came", "line 2 1 5 0 0 = 0; line 0 0 3 0 0 = 1; line 1 1 2 0 0 = 2; ofLine * 0 = 2 0 1");
+        run("4 numbered from 0 on as they came", """
+            line 2 1 5 0 0 = 0; line 0 0 3 0 0 = 1; line 1 1 2 0 0 = 2; ofLine * 0 = 2 0 1
+            """);
         run("4 they may lie in BLOCKS, across one another, one on another", """
             block 0 1 0 7 0 29; line 0 0 4 0 29 = 0; line 0 1 15 0 7 = 1; line 0 0 4 0 29 = 2; line 0 1 15 3 4 = 3
             """);
@@ -180,7 +186,9 @@ public final class PageEdgesTest {
 
     private static void lineFull() {
         run("4 12 at most: the last that comes", lines(12) + "many 1 = 12; ofLine 11 0 = 3; ofLine 12 0 = UNKNOWN");
-        run("4 12 at most: the first that does not, on any PAGE", lines(12) + "line 0..3 0..1 1 0 0 = FULL; many 1 = 12");
+        run("4 12 at most: the first that does not, on any PAGE", lines(12) + """
+            line 0..3 0..1 1 0 0 = FULL; many 1 = 12
+            """);
         run("4 OUTSIDE, then FULL", lines(12) + """
             line 4 0 1 0 0 = OUTSIDE; line 0 2 1 0 0 = OUTSIDE; line 0 0 8 0 0 = OUTSIDE; line 0 1 0 0 0 = OUTSIDE
             line 0 0 1 0 30 = OUTSIDE; line 0 1 1 0 8 = OUTSIDE; line 0 0 1 1 0 = OUTSIDE
@@ -192,9 +200,13 @@ public final class PageEdgesTest {
     }
 
     private static void backAndErase() {
-        run("5 STATE: there is none, though there are LINES", "line 0 0 1 0 0; back = STATE; many 1 = 1; ofLine 0 2 = 1");
+        run("5 STATE: there is none, though there are LINES", """
+            line 0 0 1 0 0; back = STATE; many 1 = 1; ofLine 0 2 = 1
+            """);
         run("5 the last one left", "block 0 1 0 0 0 0; back = 0; back = STATE; many 0 = 0; at 0 0 0 = NONE");
-        run("5 how many are left", blocks(24) + "back = 23; back = 22; many 0 = 22; ofBlock 21 0 = 0; ofBlock 22 0 = UNKNOWN");
+        run("5 how many are left", blocks(24) + """
+            back = 23; back = 22; many 0 = 22; ofBlock 21 0 = 0; ofBlock 22 0 = UNKNOWN
+            """);
         run("5 the last BLOCK, not another", """
             block 0 1 0 0 0 0; block 0 1 1 1 0 0; back = 1; at 0 0 0 = 0; at 0 1 0 = NONE
             """);
@@ -206,10 +218,16 @@ public final class PageEdgesTest {
             block 0 1 0 0 0 0; mark 0 0 0 0 = 0; mark 0 1 0 0 = 0; back = 0; block 0 1 0 0 0 0 = 0
             ofMark 0 0..1 0..1 = NONE; mark 0 0 1 1 = 0; mark 0 1 1 1 = 0
             """);
-        run("6 STATE: there is none, though there are BLOCKS", "block 0 1 0 0 0 0; erase = STATE; many 0 = 1; at 0 0 0 = 0");
+        run("6 STATE: there is none, though there are BLOCKS", """
+            block 0 1 0 0 0 0; erase = STATE; many 0 = 1; at 0 0 0 = 0
+            """);
         run("6 the last one left", "line 0 0 1 0 0; erase = 0; erase = STATE; many 1 = 0");
-        run("6 how many are left", lines(12) + "erase = 11; erase = 10; many 1 = 10; ofLine 9 0 = 1; ofLine 10 0 = UNKNOWN");
-        run("6 the last LINE, not another", "line 0 0 1 0 0; line 0 0 2 0 0; erase = 1; ofLine 0 2 = 1; line 0 1 3 0 0 = 1");
+        run("6 how many are left", lines(12) + """
+            erase = 11; erase = 10; many 1 = 10; ofLine 9 0 = 1; ofLine 10 0 = UNKNOWN
+            """);
+        run("6 the last LINE, not another", """
+            line 0 0 1 0 0; line 0 0 2 0 0; erase = 1; ofLine 0 2 = 1; line 0 1 3 0 0 = 1
+            """);
         run("6 BLOCKS stay", "block 0 1 0 0 0 0; line 0 0 1 0 0; erase = 0; many 0 = 1; block 0 1 1 1 0 0 = 1");
     }
 
@@ -218,15 +236,21 @@ public final class PageEdgesTest {
         run("7 how many BLOCKS there were: all, LINES are not counted", blocks(24) + lines(12) + """
             clear = 24; many 0..11 = 0; clear = 0; back = STATE; erase = STATE
             """);
-        run("7 numbered from 0 on again", blocks(3) + lines(2) + "clear = 3; block 0 1 0 0 0 0 = 0; line 0 0 1 0 0 = 0");
+        run("7 numbered from 0 on again", blocks(3) + lines(2) + """
+            clear = 3; block 0 1 0 0 0 0 = 0; line 0 0 1 0 0 = 0
+            """);
         run("7 no marks on those that come then", """
             block 0 1 0 0 0 0; mark 0 0..1 3 9 = 0; clear = 1; block 0 1 0 0 0 0; ofMark 0 0..1 0..1 = NONE; many 9 = 0; many 10 = 0
             """);
     }
 
     private static void turn() {
-        run("8 in other COLUMNS: from end to end none is", "block 0 1 0 7 0 0; turn = 0; ofBlock 0 2 = 0; ofBlock 0 3 = 7");
-        run("8 in other COLUMNS: in the middle none is", "block 0 1 3 4 0 0; block 0 1 2 5 1 1; block 0 1 1 6 2 2; turn = 0");
+        run("8 in other COLUMNS: from end to end none is", """
+            block 0 1 0 7 0 0; turn = 0; ofBlock 0 2 = 0; ofBlock 0 3 = 7
+            """);
+        run("8 in other COLUMNS: in the middle none is", """
+            block 0 1 3 4 0 0; block 0 1 2 5 1 1; block 0 1 1 6 2 2; turn = 0
+            """);
         run("8 in other COLUMNS: one step off the middle", """
             block 0 1 2 4 0 0; block 0 1 3 3 1 1; turn = 2; ofBlock * 2 = 3 4; ofBlock * 3 = 5 4
             """);
